@@ -23,7 +23,6 @@ public final class RandomRunsTest {
             "attached a meshed miniheap", "new block in a meshed miniheap", "freed an alias of the attached one",
             "released a meshed miniheap", "RIGHT kept", "attached by the lowest number"};
         for (int i = 0; i < names.length; i++) {
-            System.out.println(names[i] + ": " + seen[i]);
             check.due("the runs went through: " + names[i], seen[i] > 100, true);
         }
         check.done();
