@@ -225,23 +225,25 @@ public final class MeshedSpans {
     private int makeSmall(int sizeClass) {
         Attachment attachment = attachments[sizeClass];
         if (attachment.isSpent()) {
-            Miniheap next = nextToAttach(sizeClass);
-            if (next == null) {
-                return NONE;
-            }
-            attachment.attach(next, draws);
+            attachNext(sizeClass);
         }
         int address = attachment.handOut();
-        int words = wordsOfClass(sizeClass);
-        spans.clear(address, words);
-        live.add(address, words);
+        if (address != NONE) {
+            spans.clear(address, wordsOfClass(sizeClass));
+            live.add(address, wordsOfClass(sizeClass));
+        }
         return address;
     }
 
-    /** Null, with nothing changed, when none has a free cell and no new one can be made. */
-    private Miniheap nextToAttach(int sizeClass) {
-        Miniheap fullest = fullestWithRoom(sizeClass);
-        return fullest != null ? fullest : newMiniheap(sizeClass);
+    /** With no miniheap to be had, the spent one stays attached: a refused malloc changes nothing. */
+    private void attachNext(int sizeClass) {
+        Miniheap next = fullestWithRoom(sizeClass);
+        if (next == null) {
+            next = newMiniheap(sizeClass);
+        }
+        if (next != null) {
+            attachments[sizeClass].attach(next, draws);
+        }
     }
 
     private Miniheap fullestWithRoom(int sizeClass) {
@@ -656,8 +658,11 @@ public final class MeshedSpans {
             draws.shuffle(cells, length);
         }
 
-        /** Answers the address of the cell; the caller has seen that there is one. */
+        /** Answers the address of the cell, NONE when there is none to hand out. */
         int handOut() {
+            if (isSpent()) {
+                return NONE;
+            }
             length--;
             int cell = cells[length];
             heap.setUsed(cell);
