@@ -120,7 +120,7 @@ public final class MeshedSpans {
     }
 
     public int count(int physical) {
-        return isPhysical(physical) ? spans.virtualsOf(physical) : NONE;
+        return spans.virtualsOf(physical);
     }
 
     public int blocks() {
@@ -394,7 +394,7 @@ public final class MeshedSpans {
         }
 
         int virtualsOf(int p) {
-            return virtuals[p];
+            return isPhysical(p) ? virtuals[p] : NONE;
         }
 
         int freeOnes() {
@@ -428,15 +428,15 @@ public final class MeshedSpans {
         }
 
         void open(int virtual, int p) {
-            if (isVirtual(virtual) && isPhysical(p)) {
-                map(virtual, p);
-                clear(virtual * SPAN_WORDS, SPAN_WORDS);
-            }
+            map(virtual, p);
+            clear(virtual * SPAN_WORDS, SPAN_WORDS);
         }
 
         private void map(int virtual, int p) {
-            physical[virtual] = p;
-            virtuals[p]++;
+            if (isVirtual(virtual) && isPhysical(p)) {
+                physical[virtual] = p;
+                virtuals[p]++;
+            }
         }
 
         void unmap(int virtual) {
@@ -468,9 +468,13 @@ public final class MeshedSpans {
             System.arraycopy(words, from * SPAN_WORDS + offset, words, to * SPAN_WORDS + offset, length);
         }
 
+        /** The words from an address on, all of them in its span. */
         void clear(int address, int length) {
-            for (int i = 0; i < length; i++) {
-                write(address + i, 0);
+            int first = placeOf(address);
+            if (first != NONE) {
+                for (int place = first; place < first + length && place < words.length; place++) {
+                    words[place] = 0;
+                }
             }
         }
 
@@ -509,15 +513,19 @@ public final class MeshedSpans {
         }
 
         void add(int address, int length) {
-            words[address] = length;
-            mark(address, length, true);
-            number++;
+            if (isAddress(address)) {
+                words[address] = length;
+                mark(address, length, true);
+                number++;
+            }
         }
 
         void remove(int address) {
-            mark(address, words[address], false);
-            words[address] = 0;
-            number--;
+            if (beginsAt(address)) {
+                mark(address, words[address], false);
+                words[address] = 0;
+                number--;
+            }
         }
 
         private void mark(int address, int length, boolean covered) {
@@ -527,7 +535,7 @@ public final class MeshedSpans {
         }
 
         boolean beginsAt(int address) {
-            return isAddress(address) && words[address] > 0;
+            return wordsAt(address) > 0;
         }
 
         boolean covers(int address) {
@@ -535,7 +543,7 @@ public final class MeshedSpans {
         }
 
         int wordsAt(int address) {
-            return words[address];
+            return isAddress(address) ? words[address] : 0;
         }
 
         int howMany() {

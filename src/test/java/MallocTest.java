@@ -263,34 +263,8 @@ public final class MallocTest {
         CHECK.due("attached(0): no number was used up", x.attached(0), 1);
     }
 
-    /**
-     * Five groups of four miniheaps of class 2, each with one block, that all mesh into one, and
-     * behind them an attached miniheap without blocks: 22 virtual spans on 7 physical ones.
-     */
-    private static MeshedSpans fiveGroups() {
-        MeshedSpans x = new MeshedSpans(1);
-        x.malloc(1);
-        for (int group = 0; group < 5; group++) {
-            int first = 1 + 4 * group;
-            for (int i = 0; i < 20; i++) {
-                x.malloc(4);
-            }
-            for (int place = 0; place < 16; place++) {
-                if (place / 4 != place % 4) {
-                    x.free(16 * first + 4 * place);
-                }
-            }
-            CHECK.due("mesh of four", x.mesh(2, 16), 2);
-            CHECK.due("mesh of two", x.mesh(2, 16), 1);
-            for (int cell = 0; cell < 4; cell++) {
-                x.free(16 * (first + 4) + 4 * cell);
-            }
-        }
-        return x;
-    }
-
     private static void noVirtualSpanChangesNothing() {
-        MeshedSpans x = fiveGroups();
+        MeshedSpans x = Scenes.crowded(1);
         CHECK.due("freeSpans()", x.freeSpans(), 5);
         CHECK.due("malloc(48): only two virtual spans are left", x.malloc(48), NONE);
         CHECK.due("malloc(32)", x.malloc(32), 16 * 22);

@@ -19,27 +19,11 @@ public final class MeshTest {
         otherClassesStay();
         meshedMiniheapsMeshAgain();
         probesOfTheLatest();
-        rowIsByNumbers();
         CHECK.done();
     }
 
-    /**
-     * Miniheaps of class 2, one for each mask of cells that stay used, and a full attached one behind
-     * them. Bit k of a mask is cell k. Miniheap h lies in virtual and physical span h.
-     */
     private static MeshedSpans layOut(int... masks) {
-        MeshedSpans x = new MeshedSpans(17);
-        for (int i = 0; i < 4 * masks.length + 4; i++) {
-            x.malloc(4);
-        }
-        for (int h = 0; h < masks.length; h++) {
-            for (int cell = 0; cell < 4; cell++) {
-                if ((masks[h] >> cell & 1) == 0) {
-                    x.free(16 * h + 4 * cell);
-                }
-            }
-        }
-        return x;
+        return Scenes.layOut(2, masks);
     }
 
     private static void wrongArguments() {
@@ -279,30 +263,5 @@ public final class MeshTest {
         CHECK.due("probes()", x.probes(), 2);
         CHECK.due("mesh(0, 1)", x.mesh(0, 1), 0);
         CHECK.due("probes() of a class without miniheaps", x.probes(), 0);
-    }
-
-    /** Miniheap 4 lies in span 0, below the others; in the row it comes last nevertheless. */
-    private static void rowIsByNumbers() {
-        for (int seed = 0; seed < 10; seed++) {
-            MeshedSpans x = layOut(0, 1, 2);
-            CHECK.due("mapped(0)", x.mapped(0), NONE);
-            for (int cell = 0; cell < 4; cell++) {
-                x.free(48 + 4 * cell);
-            }
-            for (int i = 0; i < 4 + 3 + 3 + 8; i++) {
-                x.malloc(4);
-            }
-            CHECK.due("heapOf(0)", x.heapOf(0), 4);
-            CHECK.due("attached(2)", x.attached(2), 5);
-            for (int a : new int[] {20, 24, 28, 32, 40, 44, 0, 4, 12}) {
-                x.free(a);
-            }
-            x.seed(seed);
-            int[] row = new Lot(seed).shuffled(1, 2, 0);
-            CHECK.due("mesh(2, 1)", x.mesh(2, 1), 1);
-            CHECK.due("seed " + seed + ": mapped(LEFT)", x.mapped(row[0]), row[0]);
-            CHECK.due("seed " + seed + ": mapped(RIGHT)", x.mapped(row[1]), row[0]);
-            CHECK.due("seed " + seed + ": mapped(the odd one)", x.mapped(row[2]), row[2]);
-        }
     }
 }
