@@ -311,7 +311,7 @@ public final class MeshedSpans {
 
     /** Two places of the row; a place whose miniheap was meshed in this call holds NONE. */
     private boolean probeAndMesh(int leftPlace, int rightPlace) {
-        if (meshRow[leftPlace] == NONE || meshRow[rightPlace] == NONE) {
+        if (!isPhysical(meshRow[leftPlace]) || !isPhysical(meshRow[rightPlace])) {
             return false;
         }
         latestProbes++;
@@ -429,7 +429,7 @@ public final class MeshedSpans {
 
         void open(int virtual, int p) {
             map(virtual, p);
-            clear(virtual * SPAN_WORDS, SPAN_WORDS);
+            clearPlaces(p * SPAN_WORDS, SPAN_WORDS);
         }
 
         private void map(int virtual, int p) {
@@ -470,8 +470,11 @@ public final class MeshedSpans {
 
         /** The words from an address on, all of them in its span. */
         void clear(int address, int length) {
-            int first = placeOf(address);
-            if (first != NONE) {
+            clearPlaces(placeOf(address), length);
+        }
+
+        private void clearPlaces(int first, int length) {
+            if (first >= 0) {
                 for (int place = first; place < first + length && place < words.length; place++) {
                     words[place] = 0;
                 }
@@ -584,7 +587,7 @@ public final class MeshedSpans {
         }
 
         boolean exists() {
-            return sizeClass != NONE;
+            return isClass(sizeClass);
         }
 
         boolean isOf(int wanted) {
@@ -678,8 +681,10 @@ public final class MeshedSpans {
         }
 
         void putBack(int cell, Draws draws) {
-            cells[length] = cell;
-            length++;
+            if (length < cells.length) {
+                cells[length] = cell;
+                length++;
+            }
             if (length > 1) {
                 Draws.exchange(cells, length - 1, draws.below(length));
             }

@@ -28,6 +28,7 @@ public final class MallocEdgeTest {
         lowestRowThatIsLongEnough();
         lowestPhysicalSpansInTheirOrder();
         largeWordsAreZero();
+        largeWordsAreZeroInScatteredSpans();
         CHECK.done();
     }
 
@@ -317,6 +318,27 @@ public final class MallocEdgeTest {
         x.malloc(49);
         for (int a = 0; a < 64; a++) {
             CHECK.due("load(" + a + ")", x.load(a), 0);
+        }
+    }
+
+    /** "their words are 0", and those alone: from the first word of all spans to the last. */
+    private static void largeWordsAreZeroInScatteredSpans() {
+        MeshedSpans x = Scenes.takeSpans(new MeshedSpans(1), 12);
+        for (int a = 0; a < 192; a++) {
+            x.store(a, a + 1);
+        }
+        for (int span : new int[] {11, 4, 0, 7}) {
+            x.free(16 * span);
+        }
+        int address = x.malloc(64);
+        CHECK.due("malloc(64)", address, 16 * 11);
+        for (int a = address; a < address + 64; a++) {
+            CHECK.due("load(" + a + ") of the new block", x.load(a), 0);
+        }
+        for (int span : new int[] {1, 2, 3, 5, 6, 8, 9, 10}) {
+            for (int a = 16 * span; a < 16 * span + 16; a++) {
+                CHECK.due("load(" + a + ") of another block", x.load(a), a + 1);
+            }
         }
     }
 }
